@@ -214,7 +214,7 @@ public final class ReadOnceRecognizer {
         if (cotree.count == 0) {
             written.put(state.functions[slot] == 0 ? '0' : '1');
         } else {
-            written.putNode(cotree, 0, 1);
+            written.putTree(cotree);
         }
         return written.length;
     }
@@ -948,10 +948,14 @@ public final class ReadOnceRecognizer {
             }
             boolean connected = component(graph, set, set, false) == set;
             types[node] = connected ? AND_NODE : OR_NODE;
+            growChildren(graph, set, node, level + 1);
+        }
+
+        private void growChildren(Graph graph, int set, int node, int level) {
             int rest = set;
             for (int child = 0; child < MAX_VARIABLES && rest != 0; child++) {
-                int part = component(graph, set, rest, connected);
-                grow(graph, part, node, level + 1);
+                int part = component(graph, set, rest, types[node] == AND_NODE);
+                grow(graph, part, node, level);
                 rest &= ~part;
             }
         }
@@ -1009,7 +1013,11 @@ public final class ReadOnceRecognizer {
             }
         }
 
-        void putNode(Cotree tree, int node, int level) {
+        void putTree(Cotree tree) {
+            putNode(tree, 0, 1);
+        }
+
+        private void putNode(Cotree tree, int node, int level) {
             if (level > MAX_VARIABLES || !tree.has(node)) {
                 return;
             }
