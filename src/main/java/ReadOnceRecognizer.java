@@ -481,7 +481,9 @@ public final class ReadOnceRecognizer {
             return NEGATIVE_LENGTH;
         }
         lengths[array] = length;
-        Arrays.fill(elements, array * MAX_LENGTH, (array + 1) * MAX_LENGTH, 0);
+        for (int i = 0; i < MAX_LENGTH; i++) {
+            elements[array * MAX_LENGTH + i] = 0;
+        }
         return 1;
     }
 
@@ -1082,7 +1084,7 @@ public final class ReadOnceRecognizer {
         }
 
         private boolean nextIs(int sign) {
-            return isIndex(position, length) && bytes[position] == sign;
+            return position < length && bytes[position] == sign;
         }
 
         private long readSum(int open) {
@@ -1130,7 +1132,7 @@ public final class ReadOnceRecognizer {
         }
 
         private long readAtom() {
-            if (!isIndex(position, length)) {
+            if (position >= length) {
                 return NO_FUNCTION;
             }
             int sign = bytes[position];

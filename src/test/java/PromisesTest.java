@@ -279,6 +279,7 @@ public final class PromisesTest {
         path(holding(5, "e*d+d*c+c*b"), 1, 2, 3, 4);
         path(holding(5, "a*b+b*c+c*d+d*e+e*a"), 0, 1, 2, 3);
         path(holding(5, "a*c+c*e+e*b+b*d+d*a"), 0, 2, 4, 1);
+        path(holding(4, "c*a+a*b+b*d"), 2, 0, 1, 3);
         path(holding(4, "a*b+b*c+c*d+d*a"), -1, -1, -1, -1);
         path(holding(3, "a*b+b*c+c*a"), -1, -1, -1, -1);
         path(holding(3, "1"), -1, -1, -1, -1);
@@ -613,6 +614,10 @@ public final class PromisesTest {
         due.is("table(1)", x.table(1), x.table(7));
         long before = x.table(0);
         due.is("the same variable", x.exchange(0, 2, 2, 0), 20);
+        Due.parse(x, "!a", 2);
+        due.is("a function that is 1 at point 0", x.exchange(2, 0, 3, 2), 16);
+        Due.parse(x, "!d", 7);
+        due.is("table(2)", x.table(2), x.table(7));
         due.is("table(0)", x.table(0), before);
         due.is("first 5", x.exchange(0, 5, 0, 1), -2);
         due.is("second 5", x.exchange(0, 0, 5, 1), -2);
@@ -687,6 +692,8 @@ public final class PromisesTest {
         due.is("addSample(-1, 0)", x.addSample(-1, 0), -2);
         due.is("addSample(0, 2)", x.addSample(0, 2), -2);
         due.is("addSample(0, -1)", x.addSample(0, -1), -2);
+        due.is("replaced again", x.addSample(31, 0), 32);
+        due.is("extension(0)", x.extension(0), 0);
         due.is("removeSample(31)", x.removeSample(31), 31);
         due.is("removeSample(31)", x.removeSample(31), -1);
         due.is("removeSample(32)", x.removeSample(32), -2);
@@ -800,6 +807,10 @@ public final class PromisesTest {
         due.is("undo()", x.undo(), 1);
         due.is("undo()", x.undo(), 3);
         due.is("table(3)", x.table(3), -3);
+        x.clearSteps();
+        x.addStep(2, 0, 0, 5);
+        due.is("a result of 0 points is no error", x.runSteps(), 1);
+        due.is("table(5)", x.table(5), 0);
     }
 
     private static void undoing() {
@@ -864,6 +875,7 @@ public final class PromisesTest {
         x.addSample(5, 0);
         x.addSample(6, 0);
         x.clearSteps();
+        x.addStep(0, 7, 7, 7);
         x.createArray(0, 1);
         x.setElement(0, 0, 9);
         x.writeFormula(2);
