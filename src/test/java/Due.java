@@ -16,6 +16,24 @@ final class Due {
         }
     }
 
+    void same(String what, String got, String want) {
+        int at = 0;
+        while (at < got.length() && at < want.length() && got.charAt(at) == want.charAt(at)) {
+            at++;
+        }
+        String which = got.equals(want) ? "" : " told .." + part(got, at) + ", due is .." + part(want, at);
+        holds(what + which, got.equals(want));
+    }
+
+    /** The text about a place: all of a long one would hide where it differs. */
+    private static String part(String text, int at) {
+        return text.substring(Math.max(0, at - 30), Math.min(text.length(), at + 30));
+    }
+
+    int asked() {
+        return asked;
+    }
+
     void holds(String what, boolean it) {
         is(what, it ? 1 : 0, 1);
     }

@@ -1,8 +1,16 @@
-/** The rows of the document's "Examples", each from a new object. */
+import java.io.IOException;
+import java.lang.reflect.Method;
+import java.util.regex.Matcher;
+import java.util.regex.Pattern;
+
+/** The rows of the document's "Examples", each from a new object: once written out here, once read from the document. */
 public final class ExamplesTest {
     private static final Due due = new Due();
+    private static final Pattern PART = Pattern.compile(
+        "the characters of \"([^\"]*)\" are fed|(\\w+)\\(([^)]*)\\) (-?\\d+)");
 
-    public static void main(String[] args) {
+    public static void main(String[] args) throws IOException, ReflectiveOperationException {
+        asTheDocumentSays();
         formulaReadOnce();
         majority();
         notMonotone();
@@ -10,6 +18,43 @@ public final class ExamplesTest {
         noTexts();
         dualsCofactorsExchanges();
         due.end();
+    }
+
+    private static void asTheDocumentSays() throws IOException, ReflectiveOperationException {
+        int rows = 0;
+        int calls = 0;
+        for (String row : new Document().examples()) {
+            due.section(row.substring(0, row.indexOf(':')) + ", as the document says");
+            rows++;
+            ReadOnceRecognizer x = new ReadOnceRecognizer();
+            Matcher part = PART.matcher(row);
+            while (part.find()) {
+                if (part.group(1) != null) {
+                    feed(x, part.group(1));
+                } else {
+                    calls++;
+                    due.is(part.group(), call(x, part.group(2), part.group(3)), Long.parseLong(part.group(4)));
+                }
+            }
+        }
+        due.section("the rows of the document");
+        due.is("rows", rows, 6);
+        due.is("calls", calls, 45);
+    }
+
+    private static long call(ReadOnceRecognizer x, String name, String arguments) throws ReflectiveOperationException {
+        String[] given = arguments.isBlank() ? new String[0] : arguments.split(",\\s*");
+        for (Method method : ReadOnceRecognizer.class.getMethods()) {
+            if (method.getName().equals(name)) {
+                Object[] values = new Object[given.length];
+                for (int i = 0; i < given.length; i++) {
+                    boolean isLong = method.getParameterTypes()[i] == long.class;
+                    values[i] = isLong ? (Object) Long.valueOf(given[i]) : (Object) Integer.valueOf(given[i]);
+                }
+                return ((Number) method.invoke(x, values)).longValue();
+            }
+        }
+        throw new IllegalArgumentException(name);
     }
 
     private static void feed(ReadOnceRecognizer x, String text) {
