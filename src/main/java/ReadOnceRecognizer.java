@@ -876,7 +876,8 @@ public final class ReadOnceRecognizer {
                 if (w == u || !areAdjacent(v, w) || areAdjacent(u, w)) {
                     continue;
                 }
-                int x = lowestVariable(adjacent[w] & ~adjacent[u] & ~adjacent[v] & ~(1 << u) & ~(1 << v));
+                // What is adjacent to neither u nor v is neither of them, because they are adjacent to one another.
+                int x = lowestVariable(adjacent[w] & ~adjacent[u] & ~adjacent[v]);
                 if (x != NONE) {
                     path[0] = u;
                     path[1] = v;

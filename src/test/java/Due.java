@@ -58,7 +58,7 @@ final class Due {
 
     static String written(ReadOnceRecognizer x) {
         StringBuilder text = new StringBuilder();
-        for (int i = 0; x.output(i) >= 0; i++) {
+        for (int i = 0; i < 20 && x.output(i) >= 0; i++) {
             text.append((char) x.output(i));
         }
         return text.toString();

@@ -161,6 +161,7 @@ final class GraphEdges {
         path(4, "a*b+b*c+c*d", 0, 1, 2, 3);
         path(4, "d*c+c*b+b*a", 0, 1, 2, 3);
         path(4, "b*d+d*a+a*c", 1, 3, 0, 2);
+        path(4, "d*b+b*a+a*c", 2, 0, 1, 3);
         path(5, "b*c+c*d+d*e", 1, 2, 3, 4);
         path(5, "e*c+c*d+d*b", 1, 3, 2, 4);
         path(5, "a*b+b*c+c*d+d*e", 0, 1, 2, 3);

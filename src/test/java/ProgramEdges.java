@@ -332,7 +332,9 @@ final class ProgramEdges {
         x.random(5, 3, 3);
         x.random(6, 3, 6);
         x.addSample(0, 1);
-        x.addStep(2, 3, 6, 0);
+        for (int i = 0; i < 8; i++) {
+            x.addStep(2, 3, 6, i % 3);
+        }
         x.runSteps();
     }
 
@@ -404,7 +406,7 @@ final class ProgramEdges {
         for (int i = 0; i < 25; i++) {
             int can = x.undoable();
             int done = 0;
-            while (x.undo() >= 0) {
+            while (done < 12 && x.undo() >= 0) {
                 done++;
             }
             due.is("undone after " + i, done, can);

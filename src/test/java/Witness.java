@@ -42,13 +42,17 @@ final class Witness {
     }
 
     private void output() {
-        for (int i = 0; tell("output " + i, x.output(i)) >= 0; i++) {
+        boolean more = true;
+        for (int i = 0; more && i < 20; i++) {
+            more = tell("output " + i, x.output(i)) >= 0;
         }
     }
 
     private void arrays() {
         for (int array = 0; array < 4; array++) {
-            for (int i = 0; tell("element " + array + " " + i, x.element(array, i)) != Long.MIN_VALUE; i++) {
+            boolean more = true;
+            for (int i = 0; more && i < 20; i++) {
+                more = tell("element " + array + " " + i, x.element(array, i)) != Long.MIN_VALUE;
             }
         }
     }
