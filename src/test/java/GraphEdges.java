@@ -223,6 +223,10 @@ final class GraphEdges {
         due.is("a good one is passed over", Edges.holding(5, "a*b*c+c*d+d*e+e*c").badClique(0), 28);
         due.is("only the maximal one", Edges.holding(4, "a*b*c+a*d+b*d+c*d").badClique(0), 15);
         due.is("with an induced path too", Edges.holding(5, "a*b+b*c+c*d+d*e+e*c").badClique(0), 28);
+        ReadOnceRecognizer after = Edges.holding(5, "a*b+a*c+a*d+c*d*e");
+        after.badClique(0);
+        Due.parse(after, "c*d+d*e+e*c", 0);
+        due.is("c*d*e was prime, but of another function", after.badClique(0), 28);
 
         e.says("slot: the slot, 0 to 7");
         for (int slot = 0; slot < 8; slot++) {
