@@ -443,12 +443,13 @@ public final class ReadOnceRecognizer {
     // ---- history and saved state
 
     public int undo() {
-        if (history.count == 0) {
+        int latest = history.count - 1;
+        if (!isIndex(latest, MAX_RECORDS) || !isSlot(history.slots[latest])) {
             return NOTHING_SAVED;
         }
-        history.count--;
-        int slot = history.slots[history.count];
-        state.functions[slot] = history.contents[history.count];
+        int slot = history.slots[latest];
+        state.functions[slot] = history.contents[latest];
+        history.count = latest;
         return slot;
     }
 
@@ -792,10 +793,10 @@ public final class ReadOnceRecognizer {
         private int count = 0;
 
         void remember(int slot, long content) {
-            if (count == MAX_RECORDS) {
+            if (count >= MAX_RECORDS) {
                 System.arraycopy(slots, 1, slots, 0, MAX_RECORDS - 1);
                 System.arraycopy(contents, 1, contents, 0, MAX_RECORDS - 1);
-                count--;
+                count = MAX_RECORDS - 1;
             }
             slots[count] = slot;
             contents[count] = content;
@@ -1195,13 +1196,16 @@ public final class ReadOnceRecognizer {
 
         // Supports are entered in ascending order, so those of both parts of a split are there already.
         private void enterAll(int support, int[] starts) {
-            if (Integer.bitCount(support) == 1) {
-                enter(VARIABLE_TABLES[lowestVariable(support)], support, LEAF);
+            int lowest = lowestVariable(support);
+            if (lowest == NONE) {
                 return;
             }
-            int lowest = support & -support;
+            if (support == 1 << lowest) {
+                enter(VARIABLE_TABLES[lowest], support, LEAF);
+                return;
+            }
             for (int first = 1; first < support; first++) {
-                if ((first & ~support) == 0 && (first & lowest) != 0) {
+                if ((first & ~support) == 0 && hasVariable(first, lowest)) {
                     enterSplit(first, support & ~first, starts);
                 }
             }
@@ -1235,6 +1239,9 @@ public final class ReadOnceRecognizer {
         }
 
         private void sink(int from, int gap) {
+            if (gap < 1 || !isIndex(from, count)) {
+                return;
+            }
             long moved = entries[from];
             int at = from;
             while (at >= gap && entries[at - gap] > moved) {

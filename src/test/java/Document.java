@@ -20,11 +20,40 @@ final class Document {
         if (promise == 0) {
             return cut(between("## Description\n", "\nExamples. Each one"));
         }
+        return cut(body(promise));
+    }
+
+    private String body(int promise) {
         String heading = "\n## Promise " + promise + ":";
         String next = promise == PROMISES ? "\n## Not promised" : "\n## Promise " + (promise + 1) + ":";
         String body = between(heading, next);
         // The first two paragraphs are the rest of the heading and the signature.
-        return cut(body.substring(body.indexOf("`\n\n") + 3));
+        return body.substring(body.indexOf("`\n\n") + 3);
+    }
+
+    /** The name of a promise's method, which its heading tells. */
+    String methodOf(int promise) {
+        return between("\n## Promise " + promise + ": ", "\n");
+    }
+
+    /** What a promise says of its answers: the last paragraph that begins with "Returns". */
+    String answers(int promise) {
+        String found = "";
+        for (String paragraph : body(promise).split("\n\\s*\n")) {
+            if (paragraph.startsWith("Returns")) {
+                found = paragraph;
+            }
+        }
+        return found;
+    }
+
+    /** The lines of the constants, as "NONE = -1". */
+    List<String> constants() {
+        List<String> lines = new ArrayList<>();
+        for (String line : between("\nThe constants:\n\n", "\n\n").split("\n")) {
+            lines.add(line.substring(line.indexOf('`') + 1, line.lastIndexOf('`')));
+        }
+        return lines;
     }
 
     /** The rows of the examples, a paragraph each. */

@@ -1,5 +1,4 @@
 import java.io.IOException;
-import java.lang.reflect.Method;
 import java.util.regex.Matcher;
 import java.util.regex.Pattern;
 
@@ -33,28 +32,13 @@ public final class ExamplesTest {
                     feed(x, part.group(1));
                 } else {
                     calls++;
-                    due.is(part.group(), call(x, part.group(2), part.group(3)), Long.parseLong(part.group(4)));
+                    due.is(part.group(), Calls.call(x, part.group(2), part.group(3)), Long.parseLong(part.group(4)));
                 }
             }
         }
         due.section("the rows of the document");
         due.is("rows", rows, 6);
         due.is("calls", calls, 45);
-    }
-
-    private static long call(ReadOnceRecognizer x, String name, String arguments) throws ReflectiveOperationException {
-        String[] given = arguments.isBlank() ? new String[0] : arguments.split(",\\s*");
-        for (Method method : ReadOnceRecognizer.class.getMethods()) {
-            if (method.getName().equals(name)) {
-                Object[] values = new Object[given.length];
-                for (int i = 0; i < given.length; i++) {
-                    boolean isLong = method.getParameterTypes()[i] == long.class;
-                    values[i] = isLong ? (Object) Long.valueOf(given[i]) : (Object) Integer.valueOf(given[i]);
-                }
-                return ((Number) method.invoke(x, values)).longValue();
-            }
-        }
-        throw new IllegalArgumentException(name);
     }
 
     private static void feed(ReadOnceRecognizer x, String text) {

@@ -6,6 +6,7 @@ import java.lang.reflect.Modifier;
 import java.nio.file.Files;
 import java.nio.file.Path;
 import java.util.Arrays;
+import java.util.List;
 import java.util.Set;
 import java.util.TreeSet;
 import java.util.regex.Matcher;
@@ -17,11 +18,14 @@ public final class FaceTest {
     private static final Path DOCUMENT = Path.of("../shared/DOC.md");
     private static final Path SOURCE = Path.of("src/main/java/ReadOnceRecognizer.java");
 
-    public static void main(String[] args) throws IOException {
+    public static void main(String[] args) throws IOException, ReflectiveOperationException {
         publicMembers();
+        constants();
         ruleOne();
         staticFields();
         words();
+        longMethods();
+        placesThatMake();
         due.end();
     }
 
@@ -53,6 +57,18 @@ public final class FaceTest {
         due.is("56 members in the document", want.size(), 56);
         due.holds(want + " is " + got, want.equals(got));
         due.holds("public and final", Modifier.isPublic(face.getModifiers()) && Modifier.isFinal(face.getModifiers()));
+    }
+
+    /** The constants have the values that the document's face and its list of constants both tell. */
+    private static void constants() throws IOException, ReflectiveOperationException {
+        due.section("the constants");
+        String text = Files.readString(DOCUMENT);
+        for (String line : new Document().constants()) {
+            String[] parts = line.split(" = ");
+            due.is(parts[0], ReadOnceRecognizer.class.getField(parts[0]).getInt(null), Integer.parseInt(parts[1]));
+            due.holds(line + " in the face", text.contains("    public static final int " + line + ";"));
+        }
+        due.is("seven", new Document().constants().size(), 7);
     }
 
     private static String types(Class<?>[] types) {
@@ -120,6 +136,31 @@ public final class FaceTest {
         Matcher imports = Pattern.compile("import ([\\w.]+);").matcher(code);
         while (imports.find()) {
             due.holds("import " + imports.group(1), Set.of("java.util.Arrays").contains(imports.group(1)));
+        }
+    }
+
+    private static void longMethods() throws IOException {
+        due.section("rule 11");
+        List<String> lines = Files.readAllLines(SOURCE);
+        int methods = 0;
+        for (int from = 0; from < lines.size(); from++) {
+            Matcher head = Pattern.compile("^( {4}| {8})\\S.*\\) \\{$").matcher(lines.get(from));
+            if (head.find() && !lines.get(from).matches(" +(if|for|while|switch) .*")) {
+                methods++;
+                int length = lines.subList(from, lines.size()).indexOf(head.group(1) + "}") + 1;
+                due.holds(lines.get(from).strip() + " has " + length + " lines", length >= 1 && length <= 60);
+            }
+        }
+        due.holds(methods + " methods are found", methods >= 100);
+    }
+
+    /** Objects are made with the recognizer, or once at the first question that needs the catalog. */
+    private static void placesThatMake() throws IOException {
+        due.section("rule 12");
+        for (String line : Files.readAllLines(SOURCE)) {
+            boolean inAField = line.matches(" +private (static )?final [\\w\\[\\]]+ \\w+ = new .*");
+            boolean inTheCatalog = line.matches(" +(catalog = new Catalog\\(\\)|int\\[\\] starts = new int\\[MAX_POINTS\\]);");
+            due.holds(line.strip(), inAField || inTheCatalog || !line.matches(".*\\bnew [A-Za-z].*[(\\[].*"));
         }
     }
 }
